@@ -112,7 +112,6 @@ public final class BranchingBisim {
         }
         findBlocks();
         orderBlocksByLeastState();
-        formulaTotal = 0;
         minimised = true;
         return blockTotal;
     }
@@ -121,6 +120,7 @@ public final class BranchingBisim {
         if (!minimised) {
             return OPEN;
         }
+        // Formulas are forgotten here alone: an open object never has any.
         minimised = false;
         formulaTotal = 0;
         return OK;
