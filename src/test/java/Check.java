@@ -1,16 +1,23 @@
 /** Counts wrong answers and ends the test with exit code 1 if there was one. */
 final class Check {
     // A broken program may answer wrongly a million times; the first few tell enough.
-    private static final int PRINTED = 20;
+    private static final int PRINTED = 5;
 
     private int checked;
     private int wrong;
+    private int toPrint = PRINTED;
+
+    /** Starts a part whose first wrong answers are printed, however many came before. */
+    void begin() {
+        toPrint = PRINTED;
+    }
 
     void due(String where, String call, Object got, Object want) {
         checked++;
         if (!want.equals(got)) {
             wrong++;
-            if (wrong <= PRINTED) {
+            if (toPrint > 0) {
+                toPrint--;
                 System.out.println(where + ": " + call + " answered " + got + ", due is " + want);
             }
         }

@@ -27,6 +27,28 @@ final class Model {
         moves = new boolean[n][l + 1][n];
     }
 
+    /** For asking what a call would answer, without making it. */
+    Model copy() {
+        Model copy = new Model(n, l, m, q);
+        for (int s = 0; s < n; s++) {
+            for (int label = 0; label <= l; label++) {
+                copy.moves[s][label] = moves[s][label].clone();
+            }
+        }
+        copy.formulas.addAll(formulas);
+        copy.open = open;
+        copy.blocks = blocks;
+        return copy;
+    }
+
+    int states() {
+        return n;
+    }
+
+    int labels() {
+        return l;
+    }
+
     int addMove(int from, int label, int to) {
         if (!open) return BranchingBisim.CLOSED;
         if (badMove(from, label, to)) return BranchingBisim.BAD;

@@ -8,12 +8,10 @@ final class Pair {
     private final Check check;
     private final BranchingBisim program;
     private final Model model;
-    private final int[] sizes;
     private final Deque<String> latest = new ArrayDeque<>();
 
     Pair(Check check, int... sizes) {
         this.check = check;
-        this.sizes = sizes.clone();
         program = new BranchingBisim(sizes[0], sizes[1], sizes[2], sizes[3]);
         model = new Model(sizes[0], sizes[1], sizes[2], sizes[3]);
         latest.add(Calls.text("new", sizes));
@@ -21,6 +19,10 @@ final class Pair {
 
     Model model() {
         return model;
+    }
+
+    BranchingBisim program() {
+        return program;
     }
 
     int call(String name, int... args) {
@@ -32,8 +34,8 @@ final class Pair {
 
     /** Asks all there is to see, so that a call that changed too much shows at once. */
     void askEverything() {
-        int states = Math.max(2, Math.min(12, sizes[0]));
-        int labels = Math.max(1, Math.min(3, sizes[1]));
+        int states = model.states();
+        int labels = model.labels();
         ask("moveCount");
         ask("formulaCount");
         ask("blockCount");
