@@ -102,6 +102,19 @@ public final class Promise07Test {
             minimise() = 2
             blocks() = 0 0 1
             """);
+        // The block of 1 and 2 is not stable by the new moves, but neither is it one of the new blocks.
+        RUNS.play("nothing is left of the blocks before", """
+            new(3, 1, 8, 8)
+            addMove(0, 1, 0) = OK
+            minimise() = 2
+            blocks() = 0 1 1
+            reopen() = OK
+            addMove(1, 0, 0) = OK
+            addMove(2, 1, 0) = OK
+            minimise() = 1
+            blocks() = 0 0 0
+            quotient() = 0.1.0
+            """);
         RUNS.play("formula numbers then begin at 0 again", MINIMISED + """
             reopen() = OK
             minimise() = 3
